@@ -5,6 +5,7 @@ public final class AheadTest {
     public static void main(String[] args) {
         behind();
         meeting();
+        theLastDayAhead();
         nevers();
         crowds();
         rows();
@@ -50,6 +51,25 @@ public final class AheadTest {
         DUE.is("the walls keep them apart", z.meet(0, 1, 0), -9);
         SeenADayLate late = Due.on("m../..;p002;p000----ns;");
         DUE.is("on the sixth day", late.meet(0, 1, 0), 6);
+    }
+
+    private static void theLastDayAhead() {
+        SeenADayLate x = Due.on("m../../..;p210wn;p321s;p222ene-;d3;");
+        DUE.is("meet behind sixty", x.meet(0, 1, 0), 60);
+        SeenADayLate y = Due.on("m../../../..;p516new;p222-wnwns;p021w;d3;");
+        DUE.is("pass behind sixty", y.meet(0, 1, 1), 60);
+        x.day();
+        DUE.is("a day later", x.meet(0, 1, 0), 59);
+        y.day();
+        DUE.is("a day later", y.meet(0, 1, 1), 59);
+        SeenADayLate far = Due.on("m...../..##./...../##...;p2012w--s;p319-snnn;p506w;d3;");
+        DUE.is("meet behind sixty-one is not told", far.meet(0, 1, 0), -9);
+        far.day();
+        DUE.is("meet behind sixty", far.meet(0, 1, 0), 60);
+        SeenADayLate wide = Due.on("m....#/.#.../..##./...#.;p315eee-we;p221sswwee;p127sw;d3;");
+        DUE.is("pass behind sixty-one is not told", wide.meet(0, 1, 1), -9);
+        wide.day();
+        DUE.is("pass behind sixty", wide.meet(0, 1, 1), 60);
     }
 
     private static void nevers() {

@@ -7,6 +7,7 @@ public final class GamesTest {
         watching();
         seeds();
         images();
+        imageOfTheLastDay();
         DUE.end();
     }
 
@@ -122,5 +123,19 @@ public final class GamesTest {
         DUE.is("taken anew", x.image(), 4);
         x.day();
         DUE.is("restored anew", x.restore(), 4);
+    }
+
+    private static void imageOfTheLastDay() {
+        SeenADayLate x = Due.on("m../..;p000ew;p302;p501;d3;");
+        Due.days(x, 60);
+        DUE.is("taken on the last day", x.image(), 60);
+        Due.tell(x, "m##/.#;p002;");
+        Due.days(x, 60);
+        DUE.is("restored", x.restore(), 60);
+        for (int day = 0; day <= 60; day++) {
+            DUE.is("was on day " + day, x.was(0, day), day % 2);
+        }
+        DUE.is("no day more", x.day(), -6);
+        DUE.is("sees", x.sees(1, 0), 1);
     }
 }

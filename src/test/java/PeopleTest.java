@@ -6,6 +6,7 @@ public final class PeopleTest {
         whatOneIs();
         walkers();
         huntersDogsReckoners();
+        reckonersInAllDirections();
         hares();
         themselves();
         delays();
@@ -70,6 +71,23 @@ public final class PeopleTest {
                 DUE.is("delay " + lag + " person " + (i + 1), y.person(i + 1, 4), want[lag][i]);
             }
         }
+    }
+
+    private static void reckonersInAllDirections() {
+        String[] plans = {"n", "e", "s", "w"};
+        int[] starts = {21, 12, 3, 17};
+        for (int i = 0; i < plans.length; i++) {
+            SeenADayLate x = Due.on("m....../....../....../....../......;p00" + starts[i] + plans[i] + ";d1;");
+            Due.days(x, 2);
+            Due.tell(x, "p30" + x.was(0, 1) + ";p50" + x.was(0, 1) + ";");
+            DUE.is("a dog goes back, plan " + plans[i], x.person(1, 4), (i + 2) % 4);
+            DUE.is("a reckoner goes on, plan " + plans[i], x.person(2, 4), i);
+        }
+        SeenADayLate edge = Due.on("m.../...;p000e;d3;");
+        Due.days(edge, 4);
+        Due.tell(edge, "p502;p505;");
+        DUE.is("beyond the edge is at the edge", edge.person(1, 4), 4);
+        DUE.is("beyond the edge is at the edge, from below", edge.person(2, 4), 0);
     }
 
     private static void hares() {
