@@ -55,6 +55,8 @@ public final class EdgesOfDaysTest {
             says("Terms: HARE, of several the first").goes("tell(p40" + corner[i] + ";p204;) = 2",
                     "person(1, 4) = " + flight[i]);
         }
+        says("Terms: HARE, of several the first, where all are taken").goes("tell(m../..;p401;p402;p400;p200;) = 5",
+                "person(3, 4) = 1", "day() = 1");
         says("Terms: HARE stays where none is better").goes("tell(p400;p208;) = 2", "person(1, 4) = 4");
         says("Terms: HARE, the least WAY to all others").goes("tell(" + LANE + "p400;p405;p202;) = 4", "person(2, 4) = 2",
                 "tell(p406;) = 1", "person(2, 4) = 1", "tell(" + LANE + "p400;p202;) = 3", "person(1, 4) = 1");

@@ -67,9 +67,9 @@ public final class EdgesOfKeepingTest {
         says("Promise 25: of a new object").goes("image() = 0", "tell(m##/#.;p003;d3;) = 3", "day() = 0", "restore() = 0",
                 "count(0) = 3", "count(1) = 3", "count(2) = 0", "count(3) = 0", "count(4) = 0", "count(5) = 1",
                 "person(0, 0) = -1", "reach(0, 30) = {0 1 2 3 4 5 6 7 8}");
-        says("Promise 25: of the last DAY").goes("tell(p000ew;) = 1", "days(60) = 1", "image() = 60", "tell(m../..;) = 1",
-                "restore() = 60", "count(4) = 60", "day() = -6", "was(0, 0) = 0", "was(0, 59) = 1", "was(0, 60) = 0",
-                "was(0, 61) = -6");
+        says("Promise 25: of the last DAY").goes("tell(p004ew;) = 1", "days(60) = 1", "image() = 60", "tell(m../..;) = 1",
+                "restore() = 60", "count(4) = 60", "day() = -6", "was(0, 0) = 4", "was(0, 59) = 5", "was(0, 60) = 4",
+                "was(0, 61) = -6", "person(0, 2) = 4");
         says("Promise 25: of the DAY ahead of the last").goes("tell(p000ew;) = 1", "days(59) = 1", "image() = 59", "day() = 1",
                 "day() = -6", "restore() = 59", "day() = 1", "count(4) = 60", "day() = -6", "count(16) = 2");
     }

@@ -43,6 +43,9 @@ public final class EdgesOfTermsTest {
 
     private static void ground() {
         says("Terms: ROWS 2 ..").goes("tell(m...;) = -1004", "count(0) = 3", "tell(m.../...;) = 1", "count(0) = 2");
+        says("Terms: ROWS 2 .., one of most COLUMNS").goes("tell(m......;) = -1007", "tell(m.....;) = -1006", "count(0) = 3");
+        says("Terms: ROWS .. 5, of most COLUMNS").goes("tell(" + WIDE + ") = 1", "count(0) = 5", "count(1) = 6",
+                "tell(" + WIDE.replace(";", "/......;") + ") = -1035", "count(0) = 5");
         says("Terms: ROWS .. 5").goes("tell(m../../../../..;) = 1", "count(0) = 5",
                 "tell(m../../../../../..;) = -1015", "count(0) = 5");
         says("Terms: COLUMNS 2 ..").goes("tell(m./.;) = -1002", "count(1) = 3", "tell(m../..;) = 1", "count(1) = 2");

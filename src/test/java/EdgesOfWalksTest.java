@@ -120,6 +120,10 @@ public final class EdgesOfWalksTest {
                 "sight(2, 4) = 1", "guess(0, 1) = 1", "guess(8, 1) = 5");
         says("Promise 18: most of these ways").goes("sight(4, 8) = 1", "guess(0, 2) = 4", "forget() = 1", "sight(1, 0) = 1",
                 "sight(10, 0) = 2", "guess(0, 1) = 0");
+        says("Promise 18: of the ways that fit all SIGHTS, later ones, too").goes("sight(2, 6) = 1", "sight(4, 8) = 2",
+                "guess(0, 1) = 3", "guess(0, 3) = 7", "sight(3, 6) = 3", "guess(0, 1) = -9");
+        says("Promises 17 and 18: in the last CELL of most").goes("tell(" + WIDE + ") = 1", "fits(29) = 1", "guess(29, 0) = 29",
+                "sight(1, 29) = 1", "fits(29) = 1", "fits(28) = 1", "guess(29, 1) = 29", "guess(28, 0) = 28", "fits(27) = 0");
         says("Promise 18: -9 there is no way").goes("sight(3, 8) = 1", "fits(0) = 0", "guess(0, 0) = -9", "guess(0, 1) = -9",
                 "guess(0, 3) = -9", "guess(2, 3) = 8", "guess(0, 4) = -6", "forget() = 1", "sight(0, 4) = 1", "guess(0, 0) = -9",
                 "guess(4, 0) = 4", "count(16) = 1");
@@ -155,7 +159,8 @@ public final class EdgesOfWalksTest {
     }
 
     private static void first() {
-        says("Promise 20: FIRST, -9 caught already").goes("game(4, 4, 1) = -9", "tell(m.#/##;) = 1", "game(0, 0, 1) = -9");
+        says("Promise 20: FIRST, -9 caught already").goes("game(4, 4, 1) = -9", "game(0, 1, 1) = 1", "game(4, 4, 1) = -9",
+                "tell(m.#/##;) = 1", "game(0, 0, 1) = -9");
         says("Promise 20: FIRST, -9 never").goes("game(0, 8, 1) = -9", "tell(m.#/#.;) = 1", "game(0, 3, 1) = -9", "count(11) = 0");
         says("Promise 20: FIRST, in each direction").goes("game(4, 1, 1) = 0", "game(4, 5, 1) = 1", "game(4, 7, 1) = 2",
                 "game(4, 3, 1) = 3");
