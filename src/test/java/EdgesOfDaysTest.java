@@ -169,6 +169,12 @@ public final class EdgesOfDaysTest {
                 "behind(0, 60) = 3", "day() = -6", "count(4) = 60");
         says("Terms: BEHIND by the light of the last DAYS").goes("tell(" + LANE + "p000eeewww;p1011;d3;) = 4", "days(59) = 2",
                 "behind(1, 1) = 2", "day() = 2", "person(1, 2) = 2");
+        says("Terms: in mind, from now, where one came today").goes("tell(p404;) = 1", "days(2) = 0", "tell(p003e;) = 1",
+                "behind(1, 1) = 4", "person(1, 2) = 3", "meet(1, 0, 0) = 1", "never(1, 0) = {0 1 2 4 5 6 7 8}",
+                "crowd(2, 1) = 4", "person(1, 2) = 3", "was(1, 2) = 3");
+        says("Terms: in mind, from now, where DELAY changed today").goes("tell(m....../......;p000e;p101;d3;) = 4", "days(3) = 1",
+                "person(1, 2) = 0", "delay(0) = 3", "behind(1, 1) = 1", "person(1, 2) = 0", "behind(1, 2) = 2",
+                "person(1, 2) = 0", "was(1, 3) = 0");
         says("Promise 9: in mind").goes("tell(p000es;p108;) = 2", "behind(0, 60) = 8", "behind(1, 60) = 8", "person(0, 2) = 0",
                 "person(1, 2) = 8", "count(4) = 0", "day() = 2", "sees(1, 0) = 0", "person(0, 2) = 1");
     }
